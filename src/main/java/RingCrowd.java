@@ -161,7 +161,8 @@ public final class RingCrowd {
         if (crowd == 0) {
             return STATE;
         }
-        ways.prepare(book, ring.robotsIn(crowd), waking);
+        ways.gatherFor(ring.robotsIn(crowd));
+        ways.linkBy(book, waking);
         int start = ways.numberOf(crowd);
         switch (what) {
             case 0:
@@ -180,8 +181,12 @@ public final class RingCrowd {
         if (crowd == 0) {
             return STATE;
         }
-        ways.prepare(book, ring.robotsIn(crowd), waking);
-        return what == 0 ? ways.size : Long.bitCount(ways.working(waking, goal));
+        ways.gatherFor(ring.robotsIn(crowd));
+        if (what == 0) {
+            return ways.size;
+        }
+        ways.linkBy(book, waking);
+        return Long.bitCount(ways.working(waking, goal));
     }
 
     // ---- asked
@@ -712,7 +717,9 @@ public final class RingCrowd {
         private final long[] goals = new long[GOALS];
         private final long[] links = new long[WAKINGS * MOST_NAMES];
         private final boolean[] linked = new boolean[WAKINGS];
-        private final int[] moves = new int[MOST_PLACES];
+        /** What is added to the crowd at hand when one robot at a place goes up or down, 0 where it does not. */
+        private final int[] ups = new int[MOST_PLACES];
+        private final int[] downs = new int[MOST_PLACES];
         private final int[] next = new int[MOST_NEXT];
         private int robots = 0;
         private int size = 0;
@@ -728,19 +735,16 @@ public final class RingCrowd {
             }
         }
 
-        void prepare(Book book, int many, int waking) {
-            if (robots != many) {
-                robots = many;
-                size = 0;
-                // the greatest row has a robot at place 0
-                gather(ring.oneAt(0), 0, Math.min(many, MOST_ROBOTS) - 1);
-                markGoals();
-                forgetRules();
+        void gatherFor(int many) {
+            if (robots == many) {
+                return;
             }
-            if (!outside(waking, WAKINGS) && !linked[waking]) {
-                linkAll(book, waking);
-                linked[waking] = true;
-            }
+            robots = many;
+            size = 0;
+            // the greatest row has a robot at place 0
+            gather(ring.oneAt(0), 0, Math.min(many, MOST_ROBOTS) - 1);
+            markGoals();
+            forgetRules();
         }
 
         private void gather(int crowd, int place, int left) {
@@ -777,7 +781,11 @@ public final class RingCrowd {
             return 0;
         }
 
-        private void linkAll(Book book, int waking) {
+        void linkBy(Book book, int waking) {
+            if (outside(waking, WAKINGS) || linked[waking]) {
+                return;
+            }
+            linked[waking] = true;
             for (int i = 0; i < size && i < MOST_NAMES; i++) {
                 findMoves(book, names[i]);
                 nexts = 0;
@@ -800,7 +808,9 @@ public final class RingCrowd {
 
         private void findMoves(Book book, int crowd) {
             for (int place = 0; place < ring.places && place < MOST_PLACES; place++) {
-                moves[place] = ring.manyAt(crowd, place) == 0 ? STAYS : book.moveAt(ring, crowd, place);
+                int move = ring.manyAt(crowd, place) == 0 ? STAYS : book.moveAt(ring, crowd, place);
+                ups[place] = move == UP || move == EITHER ? ring.shift(place, UP) : 0;
+                downs[place] = move == DOWN || move == EITHER ? ring.shift(place, DOWN) : 0;
             }
         }
 
@@ -811,42 +821,43 @@ public final class RingCrowd {
             }
         }
 
-        private void addMoved(int crowd, int place, int move) {
-            if (move == UP || move == EITHER) {
-                addNext(crowd + ring.shift(place, UP));
+        private void addMoved(int crowd, int up, int down) {
+            if (up != 0) {
+                addNext(crowd + up);
             }
-            if (move == DOWN || move == EITHER) {
-                addNext(crowd + ring.shift(place, DOWN));
+            if (down != 0) {
+                addNext(crowd + down);
             }
         }
 
         private void wakeOne(int crowd) {
-            for (int place = 0; place < MOST_PLACES && place < ring.places; place++) {
-                addMoved(crowd, place, moves[place]);
+            for (int place = 0; place < ring.places && place < MOST_PLACES; place++) {
+                addMoved(crowd, ups[place], downs[place]);
             }
         }
 
         /** Robot by robot, each crowd so far becomes those that this robot's choices make of it. */
         private void wakeSome(int crowd, boolean all) {
-            boolean anyMoves = false;
+            boolean anyGoes = false;
             addNext(crowd);
-            for (int place = 0; place < MOST_PLACES && place < ring.places; place++) {
-                int many = moves[place] == STAYS ? 0 : ring.manyAt(crowd, place);
+            for (int place = 0; place < ring.places && place < MOST_PLACES; place++) {
+                boolean goes = ups[place] != 0 || downs[place] != 0;
+                int many = goes ? ring.manyAt(crowd, place) : 0;
                 for (int i = 0; i < many; i++) {
-                    anyMoves = true;
-                    wakeNext(place, all);
+                    anyGoes = true;
+                    wakeAgain(ups[place], downs[place], all);
                 }
             }
-            if (!all || !anyMoves) {
-                // the first is the crowd in which nobody has moved, and that is no step
+            if (!all || !anyGoes) {
+                // the first is the crowd in which nobody has gone, and that is no step
                 dropFirst(1);
             }
         }
 
-        private void wakeNext(int place, boolean mustGo) {
+        private void wakeAgain(int up, int down, boolean mustGo) {
             int before = nexts;
-            for (int i = 0; i < before && i < MOST_NEXT && place < MOST_PLACES; i++) {
-                addMoved(next[i], place, moves[place]);
+            for (int i = 0; i < before && i < MOST_NEXT; i++) {
+                addMoved(next[i], up, down);
             }
             if (mustGo) {
                 dropFirst(before);
