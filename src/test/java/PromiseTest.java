@@ -386,8 +386,8 @@ public final class PromiseTest {
             {"see 0 1 near;", 4, 2}, {"see 1 0 near;", 6, 2}, {"see 00 1 near;", 4, 2}, {"see 0", 4, 2},
             {"see 1 1,2 0", 10, 2}, {"see 1 1,1 1,1 1,1 1,", 19, 3}, {"see 1 1,1 1,1 1,1 1,0 0", 19, 3},
             {"see 1 1 near;see 1 1 near;", 21, 3}, {"see 1 1 near;see 01 1stay", 21, 3},
-            {"see 1 1 near;see 1 1;", 20, 1}, {"see 1 1 nearz;", 8, 1}, {"see 1 1 neara;", 8, 1}, {"tee 1 1 near;", 0, 1},
-            {"see 1 1 dear;", 8, 1}, {"see 1 1 car;", 8, 1}, {"see 1 1 slay;", 8, 1}, {"z", 0, 1}, {"a", 0, 1},
+            {"see 1 1 near;see 1 1;", 20, 1}, {"see 1 1 nearz;", 8, 1}, {"see 1 1 neara;", 8, 1},
+            {"tee 1 1 near;", 0, 1}, {"see 1 1 dear;", 8, 1}, {"see 1 1 car;", 8, 1}, {"see 1 1 slay;", 8, 1}, {"z", 0, 1}, {"a", 0, 1},
             {"see 1 1,2 1 far;see 1 1,2 1 far;", 28, 3}};
         for (Object[] one : faults) {
             RingCrowd x = new RingCrowd(5);
