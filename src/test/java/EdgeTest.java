@@ -24,6 +24,7 @@ public final class EdgeTest {
         goal();
         step();
         go();
+        nobodyGoes();
         feedNumbers();
         feedBytes();
         feedFull();
@@ -275,6 +276,23 @@ public final class EdgeTest {
             Due.refused("none is at 0", Due::busyWithout, y -> y.go(0, by), STATE);
             Due.refused("it is told to stay", Due::busy, y -> y.go(1, by), STATE);
             Due.refused("it has no rule", Due::busy, y -> y.go(3, by), STATE);
+        }
+    }
+
+    /** A row that is met from a place without robots is nobody's view, though a rule may have it. */
+    private static void nobodyGoes() {
+        Supplier<RingCrowd> made = () -> Due.ruled("see 1 1,3 1 near;see 2 1,3 1 stay;", 5, 1, 3);
+        Due.says("6: NONE: there are none, whatever the rules say");
+        Due.leaves("does(2)", made, x -> x.does(2), NONE);
+        Due.says("9: how many moved: none but ROBOTS");
+        Due.leaves("step()", made, RingCrowd::step, 0);
+        Due.says("10: STATE: none is there, whatever the rules say");
+        Due.refused("go(2, 1)", made, x -> x.go(2, 1), STATE);
+        Due.refused("go(2, 0)", made, x -> x.go(2, 0), STATE);
+        Due.says("14: no STEP leads on: none but ROBOTS go");
+        for (int waking = 0; waking < 3; waking++) {
+            Due.provedIs("nobody goes", made.get(), waking, 0, 0, 1, 0, 1, NONE);
+            Due.due("starts", made.get().starts(waking, 0, 1), 1);
         }
     }
 

@@ -19,7 +19,9 @@ import java.util.regex.Pattern;
  */
 public final class ModelTest {
     private static final int NONE = -1000000, BAD = -1000001, STATE = -1000002, FULL = -1000003, KIND = -1000004;
-    private static final int RUNS = 600, CALLS = 400;
+    private static final int RUNS = 600;
+    /** What an object answers to calls beyond these is free; rules, fault and a survey need their share of them. */
+    private static final int CALLS = 512, KEPT = 60;
 
     private static int wrong = 0;
     private static final Map<String, Integer> seen = new HashMap<>();
@@ -58,6 +60,7 @@ public final class ModelTest {
         private final RingCrowd real;
         private final Model model;
         private final StringBuilder calls = new StringBuilder();
+        private int made = 0;
 
         Run(int number) {
             this.number = number;
@@ -69,14 +72,18 @@ public final class ModelTest {
         }
 
         void play() {
-            int made = 0;
             while (made < CALLS && wrong < 20) {
-                made += random.nextInt(8) == 0 ? text() : single();
+                if (made < CALLS - KEPT && random.nextInt(8) == 0) {
+                    text();
+                } else {
+                    single();
+                }
             }
         }
 
         private int due(String call, int got, int want) {
             calls.append("; ").append(call);
+            made++;
             if (got != want) {
                 wrong++;
                 System.out.println("run " + number + ": " + call + " answered " + got + ", due is " + want);
@@ -96,12 +103,11 @@ public final class ModelTest {
             return random.nextInt(20) == 0 ? random.nextInt(bound + 4) - 2 : random.nextInt(bound);
         }
 
-        private int text() {
+        private void text() {
             String text = model.randomText(random);
             byte[] bytes = text.getBytes(java.nio.charset.StandardCharsets.ISO_8859_1);
             int fed = 0;
-            int feeds = 0;
-            while (fed < bytes.length) {
+            while (fed < bytes.length && made < CALLS - KEPT) {
                 int many = Math.min(1 + random.nextInt(8), bytes.length - fed);
                 long w = random.nextLong();
                 for (int i = 0; i < many; i++) {
@@ -111,16 +117,17 @@ public final class ModelTest {
                     note("feed FULL");
                 }
                 fed += many;
-                feeds++;
             }
             int answer = due("rules()", real.rules(), model.rules());
             due("fault()", real.fault(), model.fault);
             note(answer < 0 ? "rules fault " + model.fault : "rules fine");
-            return feeds + 2 + (answer > 0 && random.nextInt(3) == 0 ? survey() : 0);
+            if (answer > 0 && random.nextInt(3) == 0) {
+                survey();
+            }
         }
 
         /** All proofs from another crowd of as many robots. */
-        private int survey() {
+        private void survey() {
             int robots = due("wipe()", real.wipe(), model.wipe());
             for (int i = 0; i < robots; i++) {
                 int p = random.nextInt(model.n);
@@ -133,10 +140,9 @@ public final class ModelTest {
                     }
                 }
             }
-            return robots + 46;
         }
 
-        private int single() {
+        private void single() {
             int p = place();
             int a = upTo(3);
             int b = upTo(3);
@@ -189,7 +195,6 @@ public final class ModelTest {
                     int c = upTo(7);
                     due("count(" + c + ")", real.count(c), model.count(c));
             }
-            return 1;
         }
 
         private void proofs(int waking, int goal, int what) {
